@@ -29,7 +29,7 @@ public final class SpanMaps {
       folds[m] = new Fold();
     }
     powers = new Powers();
-    returns = new Returns(powers);
+    returns = new Returns();
   }
 
   public int map(int m, int n) {
@@ -218,7 +218,11 @@ public final class SpanMaps {
     if (c == NONE) {
       return NO;
     }
-    return Integer.compare(folds[m].cornerAfter(c, i), c) + 1;
+    int at = folds[m].cornerAfter(c, i);
+    if (at == c) {
+      return 1;
+    }
+    return at < c ? 0 : 2;
   }
 
   public int topRound(int m, int what) {
@@ -583,18 +587,15 @@ public final class SpanMaps {
    * back, closed ways, less edges that come back, make up all points.
    */
   private static final class Returns {
-    private final Powers powers;
+    private final Powers powers = new Powers();
     private final int[] cornerPeriod = new int[MOST_PIECES + 1];
     private final int[] edgePeriod = new int[2 * MOST_PIECES];
     private final boolean[] edgeStill = new boolean[2 * MOST_PIECES];
     private final long[] newWays = new long[MOST_ROUND + 1];
     private int spans = 1;
+    private long toPass;
     long foundAbove;
     long foundBelow = 1L;
-
-    Returns(Powers powers) {
-      this.powers = powers;
-    }
 
     void study(Fold fold) {
       spans = fold.pieces;
@@ -672,63 +673,71 @@ public final class SpanMaps {
       return countNew(k) > 0L;
     }
 
-    /**
-     * The index-th point, where they are not endless. An edge that comes back stands for the
-     * first or the last closed way of its span, the point of which is a corner told already.
-     */
+    /** Keeps the index-th point that comes back in k steps, where these are not endless. */
     boolean find(Fold fold, int k, int index) {
-      long left = index;
+      toPass = index;
       for (int i = 0; i <= spans; i++) {
         if (divides(cornerPeriod[i], k)) {
-          if (left == 0L) {
-            foundAbove = i;
-            foundBelow = 1L;
-            return true;
+          if (toPass == 0L) {
+            return settle(i, 1L);
           }
-          left--;
+          toPass--;
         }
-        if (i < spans) {
-          long first = divides(edgePeriod[2 * i], k) ? 1L : 0L;
-          long last = divides(edgePeriod[2 * i + 1], k) ? 1L : 0L;
-          long inside = powers.between(i, i, k) - first - last;
-          if (left < inside) {
-            return walk(fold, k, i, left + first);
-          }
-          left -= inside;
+        if (i < spans && isInside(i, k)) {
+          return walk(fold, k, i);
         }
       }
       return false;
     }
 
     /**
-     * Walks the index-th closed way of a span, as its points rise, and keeps what the way does
-     * to a point x: stretch x + shift. The order of the next spans turns with the stretch's sign.
+     * Whether the point that is sought is inside span i; if not, its points are passed. An edge
+     * that comes back stands for the span's first or last closed way, the point of which is a
+     * corner: the last is left out, and the first is one more to pass.
      */
-    private boolean walk(Fold fold, int k, int span, long index) {
-      long left = index;
+    private boolean isInside(int i, int k) {
+      long first = divides(edgePeriod[2 * i], k) ? 1L : 0L;
+      long last = divides(edgePeriod[2 * i + 1], k) ? 1L : 0L;
+      long inside = powers.between(i, i, k) - first - last;
+      if (toPass < inside) {
+        toPass += first;
+        return true;
+      }
+      toPass -= inside;
+      return false;
+    }
+
+    /**
+     * Walks the closed way of k steps from a span that is next behind those to pass, and keeps
+     * what it does to a point x: stretch x + shift. The point is the x that this leaves in place.
+     */
+    private boolean walk(Fold fold, int k, int home) {
       long stretch = 1L;
       long shift = 0L;
-      int at = span;
+      int at = home;
       for (int rest = k - 1; rest >= 0; rest--) {
         int slope = fold.slopeOf(at);
         stretch *= slope;
-        shift = slope * shift + fold.led[at] - (long) slope * at;
-        int next = NONE;
-        for (int t = 0; t < spans && next == NONE; t++) {
-          int j = stretch > 0L ? t : spans - 1 - t;
-          long through = fold.leadsOver(at, j) ? powers.between(j, span, rest) : 0L;
-          if (left < through) {
-            next = j;
-          } else {
-            left -= through;
-          }
-        }
-        if (next == NONE) {
+        shift = slope * shift + fold.led[at] - slope * at;
+        at = nextSpan(fold, at, home, rest, stretch > 0L);
+        if (at == NONE) {
           return false;
         }
-        at = next;
       }
       return settle(shift, 1L - stretch);
+    }
+
+    /** As points rise, the spans they are led to rise, or fall if the way so far turns them. */
+    private int nextSpan(Fold fold, int at, int home, int rest, boolean rising) {
+      for (int t = 0; t < spans; t++) {
+        int next = rising ? t : spans - 1 - t;
+        long through = fold.leadsOver(at, next) ? powers.between(next, home, rest) : 0L;
+        if (toPass < through) {
+          return next;
+        }
+        toPass -= through;
+      }
+      return NONE;
     }
 
     private boolean settle(long above, long below) {
