@@ -77,6 +77,7 @@ public final class PromisesTest {
     check.due("map(0, 5)", x.map(0, 5), 1);
     ledTo("map 5", x, 0, 0, 0, 0, 0, 0, 0);
     x.corner(0, 1, 5);
+    x.corner(0, 5, 5);
     check.due("map(0, 1)", x.map(0, 1), 1);
     ledTo("map 1", x, 0, 0, 0);
     x.map(0, 5);
@@ -128,6 +129,9 @@ public final class PromisesTest {
     ledTo("a copy stands by itself", x, 7, 2, 0, 1);
     check.due("copy on to itself", x.copy(7, 7), 2);
     ledTo("copy on to itself", x, 7, 2, 0, 1);
+    lead(x, 2, 5, 4, 3, 2, 1, 5);
+    check.due("copy a long one", x.copy(2, 7), 5);
+    ledTo("copy a long one", x, 7, 5, 4, 3, 2, 1, 5);
     check.due("copy a small one", x.copy(1, 7), 1);
     ledTo("copy a small one", x, 7, 0, 0);
     long before = x.digest();
@@ -145,9 +149,12 @@ public final class PromisesTest {
     ledTo("turn leaves the first", x, 0, 0, 3, 1, 1);
     check.due("turn itself, even many corners", x.turn(0, 0), 3);
     ledTo("turn itself, even many corners", x, 0, 2, 2, 0, 3);
-    lead(x, 2, 0, 1, 2, 2, 0);
+    lead(x, 2, 0, 1, 3, 2, 0);
     check.due("turn itself, odd many corners", x.turn(2, 2), 4);
-    ledTo("turn itself, odd many corners", x, 2, 4, 2, 2, 3, 4);
+    ledTo("turn itself, odd many corners", x, 2, 4, 2, 1, 3, 4);
+    lead(x, 3, 0, 1, 3, 2, 0);
+    check.due("turn on to another of more pieces", x.turn(7, 3), 1);
+    ledTo("turn on to another of more pieces", x, 3, 1, 1);
     long before = x.digest();
     check.due("turn -1", x.turn(-1, 0), -2);
     check.due("turn 8", x.turn(8, 0), -2);
@@ -312,6 +319,8 @@ public final class PromisesTest {
     for (int i = 0; i < 5; i++) {
       check.due("part of a long way " + i, x.part(1, i), 0);
     }
+    lead(x, 3, 2, 1, 0);
+    check.due("part of two that change places", x.part(3, 1), 0);
     lead(x, 2, 0, 0, 2);
     check.due("part where a way leads but one way", x.part(2, 1), 1);
     check.due("part of a flat span", x.part(2, 0), 0);
@@ -346,6 +355,15 @@ public final class PromisesTest {
     check.due("rounds turned about 3", back.rounds(0, 3), 1);
     check.due("rounds turned about 6", back.rounds(0, 6), -1);
     check.due("rounds on a falling corner", with(0, 2, 1, 0).rounds(0, 1), 1);
+    // All six corners go round: 0, 3, 2, 4, 1, 5.
+    int[] six = {1, 3, 1, 7, 1, 9};
+    lead(x, 2, 3, 5, 4, 2, 1, 0);
+    for (int k = 1; k <= 6; k++) {
+      check.due("rounds of six corners " + k, x.rounds(2, k), six[k - 1]);
+    }
+    lead(x, 3, 4, 4, 4, 4, 5, 4);
+    check.due("rounds of a high span turned about 1", x.rounds(3, 1), 1);
+    check.due("rounds of a high span turned about 2", x.rounds(3, 2), -1);
     check.due("rounds of 0", x.rounds(0, 0), -2);
     check.due("rounds of 7", x.rounds(0, 7), -2);
     check.due("rounds map 8", x.rounds(8, 1), -2);
@@ -369,6 +387,13 @@ public final class PromisesTest {
     check.due("round of 0", x.round(0, 0, 0, 0), -2);
     check.due("round of 7", x.round(0, 7, 0, 0), -2);
     check.due("round map -1", x.round(-1, 2, 0, 0), -2);
+    SpanMaps six = with(0, 3, 5, 4, 2, 1, 0);
+    long[][] dueOfSix = {{0, 1}, {2, 3}, {1, 1}, {2, 1}, {8, 3}, {3, 1}, {4, 1}, {13, 3}, {5, 1}};
+    for (int i = 0; i < dueOfSix.length; i++) {
+      check.due("round of six corners " + i + " a", six.round(0, 6, i, 0), dueOfSix[i][0]);
+      check.due("round of six corners " + i + " b", six.round(0, 6, i, 1), dueOfSix[i][1]);
+    }
+    check.due("round of six corners, not so many", six.round(0, 6, 9, 0), -1);
     SpanMaps last = with(0, 2, 0, 2);
     check.due("round at n", last.round(0, 1, 1, 0), 2);
     check.due("round at n, b", last.round(0, 1, 1, 1), 1);
@@ -387,6 +412,8 @@ public final class PromisesTest {
     check.due("period endless by a divisor", with(0, 0, 1).period(0, 6), -1);
     check.due("period turned about 3", with(0, 1, 0).period(0, 3), 0);
     check.due("period turned about 4", with(0, 1, 0).period(0, 4), -1);
+    check.due("period of six corners", with(0, 3, 5, 4, 2, 1, 0).period(0, 6), 6);
+    check.due("period of six corners 4", with(0, 3, 5, 4, 2, 1, 0).period(0, 4), 4);
     check.due("period 0", x.period(0, 0), -2);
     check.due("period 7", x.period(0, 7), -2);
     check.due("period map 8", x.period(8, 1), -2);
@@ -410,6 +437,11 @@ public final class PromisesTest {
     for (int k = 1; k <= 6; k++) {
       check.due("has beside a still span " + k, x.has(3, k), 1);
       check.due("rounds beside a still span " + k, x.rounds(3, k), -1);
+    }
+    int[] highTurned = {1, 1, 0, 0, 0, 0};
+    lead(x, 4, 4, 4, 4, 4, 5, 4);
+    for (int k = 1; k <= 6; k++) {
+      check.due("has, a high span turned about " + k, x.has(4, k), highTurned[k - 1]);
     }
     check.due("has 0", x.has(0, 0), -2);
     check.due("has 7", x.has(0, 7), -2);
@@ -447,6 +479,8 @@ public final class PromisesTest {
     check.due("top late", with(0, 0, 1, 2, 4, 0).top(0), 3);
     check.due("top early", with(0, 0, 4, 3, 2, 1).top(0), 1);
     check.due("top of a rise", with(0, 0, 1, 2).top(0), -1);
+    check.due("top of a rise by all pieces", with(0, 0, 1, 2, 3, 4, 5).top(0), -1);
+    check.due("top of a fall by all pieces", with(0, 5, 4, 3, 2, 1, 0).top(0), -1);
     check.due("top of a fall", with(0, 2, 1, 0).top(0), -1);
     check.due("top of a dale", with(0, 2, 0, 2).top(0), -1);
     check.due("top of two tops", with(0, 0, 3, 1, 2, 0).top(0), -1);
