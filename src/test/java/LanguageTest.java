@@ -139,6 +139,12 @@ public final class LanguageTest {
     }
     long made = bean.getCurrentThreadAllocatedBytes() - before;
     check.holds("calls made objects of " + made + " bytes", made < 20000);
+    before = bean.getCurrentThreadAllocatedBytes();
+    for (int t = 0; t < 1000; t++) {
+      useAll(new SpanMaps());
+    }
+    made = (bean.getCurrentThreadAllocatedBytes() - before) / 1000;
+    check.holds("a new object takes " + made + " bytes", made < 20000);
   }
 
   private static long useAll(SpanMaps x) {
