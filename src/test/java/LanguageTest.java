@@ -8,37 +8,14 @@ import java.nio.file.Files;
 import java.nio.file.Path;
 import java.util.Set;
 import java.util.TreeSet;
+import java.util.regex.Matcher;
 import java.util.regex.Pattern;
 
 /** The document's face, and the rules of LANGUAGE.md that a text or a class file can show. */
 public final class LanguageTest {
-  private static final String FACE = """
-      int map(int,int)
-      int corner(int,int,int)
-      int cornerAt(int,int)
-      int copy(int,int)
-      int turn(int,int)
-      int slope(int,int)
-      long far(int,long,long,int,int)
-      int word(int,long,long,int)
-      int order(int,long,long,long,long,int)
-      long join(int,int,long,long,int)
-      int table(int,int,int)
-      long ways(int,int,int,int)
-      long pieces(int,int)
-      int part(int,int)
-      int mixes(int)
-      int rounds(int,int)
-      long round(int,int,int,int)
-      int period(int,int)
-      int has(int,int)
-      int forces(int,int)
-      int most(int)
-      int top(int)
-      int topWord(int,int)
-      int topRound(int,int)
-      long digest()
-      """;
+  private static final Path DOCUMENT = Path.of("../shared/DOC.md");
+  private static final Pattern METHOD = Pattern.compile("public (int|long) (\\w+)\\(([^)]*)\\);");
+  private static final int METHODS = 25;
   private static final String[] RULED_OUT = {
     "throw", "try", "catch", "finally", "synchronized", "assert", "import", "package", "protected",
     "->", "::", "Exact", "System.", "Object", "hashCode", "toString", "Thread", "float", "double"
@@ -55,10 +32,11 @@ public final class LanguageTest {
     test.check.end();
   }
 
-  private void face() {
+  private void face() throws IOException {
     check.holds("the class is public and final", Modifier.isPublic(SpanMaps.class.getModifiers())
         && Modifier.isFinal(SpanMaps.class.getModifiers()));
-    Set<String> due = new TreeSet<>(FACE.lines().toList());
+    Set<String> due = faceOfTheDocument();
+    check.due("methods of the document's face", due.size(), METHODS);
     Set<String> found = new TreeSet<>();
     Set<String> names = new TreeSet<>();
     for (Method method : SpanMaps.class.getDeclaredMethods()) {
@@ -78,6 +56,17 @@ public final class LanguageTest {
     Constructor<?>[] made = SpanMaps.class.getDeclaredConstructors();
     check.holds("one public constructor without parameters", made.length == 1
         && Modifier.isPublic(made[0].getModifiers()) && made[0].getParameterCount() == 0);
+  }
+
+  /** The types of the parameters alone: what these are called is free. */
+  private static Set<String> faceOfTheDocument() throws IOException {
+    Set<String> methods = new TreeSet<>();
+    Matcher method = METHOD.matcher(Files.readString(DOCUMENT));
+    while (method.find()) {
+      String types = method.group(3).replaceAll("(int|long) \\w+", "$1").replace(" ", "");
+      methods.add(method.group(1) + " " + method.group(2) + "(" + types + ")");
+    }
+    return methods;
   }
 
   private void privateNames(Class<?> type, Set<String> publicNames) {
